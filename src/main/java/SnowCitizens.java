@@ -365,7 +365,7 @@ public final class SnowCitizens {
         if (north.men == 0) {
             return STATE;
         }
-        north.foreseeVoters(ahead);
+        north.foreseeVoters(north.rightNow, ahead);
         for (int n = 0; n <= FAR; n++) {
             if (north.isCarriedBy(read(ahead, n)) == (is == 1)) {
                 return n;
@@ -381,7 +381,7 @@ public final class SnowCitizens {
         if (north.men == 0) {
             return STATE;
         }
-        north.foreseeVoters(ahead);
+        north.foreseeVoters(north.rightNow, ahead);
         int sum = 0;
         for (int k = 0; k <= n; k++) {
             if (north.isCarriedBy(read(ahead, k))) {
@@ -509,6 +509,7 @@ public final class SnowCitizens {
         if (north.men == 0) {
             return STATE;
         }
+        north.foreseeLiving(ahead);
         fillMostCounted();
         int done = 0;
         for (int place = 0; place < north.men; place++) {
@@ -534,6 +535,7 @@ public final class SnowCitizens {
         if (row.size != north.men) {
             return found(SIZE);
         }
+        north.foreseeLiving(ahead);
         int done = 0;
         int sum = 0;
         for (int place = 0; place < north.men; place++) {
@@ -862,8 +864,9 @@ public final class SnowCitizens {
         return countedOn(i, Integer.bitCount(done)) + read(mostCounted, done | 1 << i);
     }
 
+    /** 1, if a MAN is counted on a DAY, by who is not GONE then; else 0. */
     private int countedOn(int i, int n) {
-        return north.bulkIn(i, n) > 0 ? 1 : 0;
+        return isIn(read(ahead, n), i) ? 1 : 0;
     }
 
     /** By what pairs that were seen of a MAN are refused; 0: they are not. */
@@ -1139,7 +1142,15 @@ public final class SnowCitizens {
             writeAll(voteOf, from.voteOf);
             writeAll(firstBulkOf, from.bulkOf);
             writeAll(firstShadeOf, from.shadeOf);
-            undoFrom(0);
+            deeds = 0;
+            restart();
+        }
+
+        /** As it was read, ahead of all DEEDS. */
+        private void restart() {
+            today = 0;
+            writeAll(bulkOf, firstBulkOf);
+            writeAll(shadeOf, firstShadeOf);
         }
 
         void become(North other) {
@@ -1176,10 +1187,8 @@ public final class SnowCitizens {
         }
 
         void undoFrom(int n) {
-            today = 0;
             deeds = n;
-            writeAll(bulkOf, firstBulkOf);
-            writeAll(shadeOf, firstShadeOf);
+            restart();
             for (int k = 0; k < n; k++) {
                 perform(read(deedSorts, k), read(deedMen, k), read(deedValues, k));
             }
@@ -1215,7 +1224,7 @@ public final class SnowCitizens {
 
         /** By how much one of a KIND MELTS on a DAY, as if it had BULK enough. */
         private int melting(int kind, int shadeThen, int day) {
-            int plain = Math.max(0, sunOn(day) - shadeThen);
+            int plain = Math.max(0, read(suns, day % SUNS) - shadeThen);
             switch (kind) {
                 case WED:
                     return plain / 2;
@@ -1273,14 +1282,9 @@ public final class SnowCitizens {
             return NONE;
         }
 
+        /** Who is not GONE: who has the RIGHT, if that is as low as can be. */
         int living() {
-            int set = 0;
-            for (int i = 0; i < men; i++) {
-                if (read(bulkOf, i) > 0) {
-                    set |= 1 << i;
-                }
-            }
-            return set;
+            return votersBy(1);
         }
 
         /** Whether a MAN with a BULK has the RIGHT, if that is v. */
@@ -1313,15 +1317,20 @@ public final class SnowCitizens {
             return set;
         }
 
-        /** To each number of DAYS from now: who has the RIGHT then. */
-        void foreseeVoters(int[] voters) {
+        /** To each number of DAYS from now: who is not GONE then. */
+        void foreseeLiving(int[] living) {
+            foreseeVoters(1, living);
+        }
+
+        /** To each number of DAYS from now: who has the RIGHT then, if that is v. */
+        void foreseeVoters(int v, int[] voters) {
             for (int n = 0; n <= FAR; n++) {
                 write(voters, n, 0);
             }
             for (int i = 0; i < men; i++) {
                 int rest = read(bulkOf, i);
                 for (int n = 0; n <= FAR; n++) {
-                    if (hasRight(i, rest, rightNow)) {
+                    if (hasRight(i, rest, v)) {
                         write(voters, n, read(voters, n) | 1 << i);
                     }
                     rest -= meltingIn(i, n);

@@ -184,13 +184,16 @@ public final class DeedsTest {
         x.day();
         x.right(8);
         x.undo(0);
-        x.day();
+        x.snow(1, 9);
         x.shade(0, 9);
         x.shade(1, 2);
         check.due("22 its DEEDS", x.on(1), 2);
         check.due("22 as it was kept", x.digest(), kept);
+        check.due("22 the DAY as it was", x.now(), 1);
+        check.due("22 the BULK as it was", x.bulk(0, 0), 17);
         check.due("22 the RIGHT as it was", x.count(2), 3);
         check.due("22 its DEEDS can be undone", x.undo(1), 1);
+        check.due("22 to the BULK ahead", x.bulk(1, 0), 30 - 3);
         check.due("22 to the SHADE ahead", x.shade(1, 1), 1);
         check.due("22 and again", x.on(1), 2);
         check.due("22 as it was kept, still", x.digest(), kept);
@@ -199,5 +202,29 @@ public final class DeedsTest {
         check.refused("22 no place ahead", x, -1, () -> x.on(-1));
         SnowCitizens none = new SnowCitizens();
         check.found("22 no MEN", none, 1, () -> none.on(0));
+        onUndone();
+    }
+
+    private static void onUndone() {
+        SnowCitizens x = Check.north("z345678915 m2000 s3010");
+        x.snow(1, 4);
+        x.shade(0, 7);
+        x.day();
+        x.keep(0);
+        x.undo(0);
+        x.day();
+        x.snow(0, 8);
+        x.shade(1, 5);
+        x.keep(2);
+        x.on(0);
+        x.undo(2);
+        check.due("22 just its own DEEDS are done again: SNOW", x.bulk(1, 0), 34);
+        check.due("22 not those behind", x.bulk(0, 0), 20);
+        check.due("22 SHADE", x.shade(0, 0), 7);
+        check.due("22 the DAY", x.now(), 0);
+        x.on(2);
+        x.undo(2);
+        check.due("22 the other one's SNOW", x.bulk(0, 0), 25);
+        check.due("22 the other one's DAY", x.bulk(1, 0), 30 - 3);
     }
 }

@@ -105,6 +105,14 @@ public final class ForetoldTest {
         SnowCitizens always = Check.north("z000000005 m5001");
         check.due("27 today alone", always.days(0), 1);
         check.due("27 all 61", always.days(60), 61);
+        SnowCitizens again = Check.north("z100000008 m0901 m0800");
+        check.due("27 DAY 0 has as many", again.days(60), 8);
+        again.right(9);
+        check.due("27 by another RIGHT", again.days(60), 1);
+        SnowCitizens lost = Check.north("z000000005 m0501");
+        check.due("27 to the 60th", lost.days(60), 61);
+        lost.right(9);
+        check.due("27 not to the 60th either", lost.days(60), 0);
         check.refused("27 61 DAYS", x, -1, () -> x.days(61));
         check.refused("27 -1 DAYS", x, -1, () -> x.days(-1));
         SnowCitizens none = new SnowCitizens();
@@ -140,6 +148,8 @@ public final class ForetoldTest {
         check.due("29 further to the west", x.heir(5, 4), 2);
         check.due("29 east ahead of west", x.heir(3, 2), 4);
         check.due("29 all are GONE", x.heir(2, 5), NONE);
+        SnowCitizens first = Check.north("z111111115 m0900 m0100 m0100");
+        check.due("29 to the west, the westmost one", first.heir(2, 1), 0);
         check.refused("29 no MAN", x, -1, () -> x.heir(6, 0));
         check.refused("29 no MAN ahead", x, -1, () -> x.heir(-1, 0));
         check.refused("29 61 DAYS", x, -1, () -> x.heir(0, 61));

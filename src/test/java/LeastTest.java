@@ -7,6 +7,7 @@ public final class LeastTest {
         guard();
         bribe();
         bribeOfAlike();
+        bribeToTheEnds();
         bribeRefused();
         carry();
         census();
@@ -35,6 +36,8 @@ public final class LeastTest {
         check.refused("30 by none", sunny, NONE, () -> sunny.guard(3, 3, 0));
         check.row("30 the ROW stays", sunny, 0, 7);
         check.due("30 with the other one alone", sunny.guard(2, 3, 0), 5);
+        SnowCitizens most = Check.north("z999999995 m0180");
+        check.due("30 by the most SHADE", most.guard(1, 60, 0), 1);
         sunny.day();
         check.refused("30 who is GONE", sunny, NONE, () -> sunny.guard(1, 0, 0));
         check.refused("30 no ROW", x, -1, () -> x.guard(1, 0, 6));
@@ -82,6 +85,24 @@ public final class LeastTest {
         check.row("31 without 2: the bits 1, 3", both, 0, 4, 4, 3, 4);
     }
 
+    private static void bribeToTheEnds() {
+        // A MAN of 5 has the RIGHT (5) under a SUN of 9 just with a SHADE of 9.
+        SnowCitizens x = Check.north("z999999995 m0501");
+        check.due("31 from 0 to 9", x.bribe(1, 3, 0), 9);
+        check.row("31 to 9", x, 0, 9);
+        // A MAN of 8 has the RIGHT (8) under a SUN of 1 with a SHADE of 1 and more.
+        SnowCitizens y = Check.north("z111111118 m0891");
+        check.due("31 from 9 to 0", y.bribe(0, 1, 0), 9);
+        check.row("31 to 0", y, 0, 0);
+        SnowCitizens low = Check.north("z000000005 m0501");
+        check.due("31 no SHADE below 0", low.bribe(0, 9, 0), NONE);
+        SnowCitizens high = Check.north("z999999995 s0581");
+        check.due("31 no SHADE above 9", high.bribe(1, 1, 0), NONE);
+        SnowCitizens between = Check.north("z999999995 m2001 m2090");
+        check.due("31 of 0 by less, of 1 by more", between.bribe(1, 2, 0), 10);
+        check.row("31 by less and more", between, 0, 2, 1);
+    }
+
     private static void bribeRefused() {
         SnowCitizens x = Check.north("z999999995 m1520");
         check.refused("31 no ROW", x, -1, () -> x.bribe(1, 0, 6));
@@ -103,6 +124,9 @@ public final class LeastTest {
         check.due("32 5 more", x.carry(0, 2), 5);
         check.due("32 more than 9", x.carry(0, 10), 29);
         check.due("32 to 99", x.carry(0, 31), 92);
+        x.right(6);
+        check.due("32 just to 99", x.carry(0, 31), 93);
+        x.right(5);
         check.due("32 by none", x.carry(2, 32), NONE);
         check.due("32 a LAWYER", x.carry(1, 3), 1);
         check.due("32 99 at most", x.carry(2, 31), 8);
@@ -128,6 +152,12 @@ public final class LeastTest {
         gone.day();
         check.due("33 who is GONE now", gone.census(0), 2);
         check.row("33 the first order with who is GONE", gone, 0, 0, 1, 2);
+        SnowCitizens fewer = Check.north("z000000005 m2000 m2000 m2000 m2000 m2000 m2000");
+        fewer.census(0);
+        Check.write(fewer, 1, "z900000005 m0200 m0200");
+        fewer.north(1);
+        check.due("33 of fewer MEN behind that", fewer.census(0), 1);
+        check.row("33 as many places as MEN", fewer, 0, 0, 1);
         check.refused("33 no ROW", x, -1, () -> x.census(6));
         check.refused("33 no ROW ahead", x, -1, () -> x.census(-1));
         SnowCitizens none = new SnowCitizens();

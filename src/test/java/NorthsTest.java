@@ -8,6 +8,7 @@ public final class NorthsTest {
         faultsRefused();
         north();
         northAnew();
+        fewerMen();
         man();
         markOfHatted();
         markOfWed();
@@ -107,18 +108,53 @@ public final class NorthsTest {
         x.day();
         x.shade(0, 4);
         x.right(7);
+        x.keep(0);
         x.keep(1);
+        x.keep(2);
         Check.write(x, 2, "z222222223 s0451");
         check.due("11 anew", x.north(2), 1);
         check.due("11 DAY 0", x.count(1), 0);
         check.due("11 no DEEDS", x.count(3), 0);
         check.due("11 the RIGHT of the text", x.count(2), 3);
         check.due("11 no kept NORTHS", x.count(8), 0);
-        check.found("11 what was kept went", x, 1, () -> x.on(1));
+        for (int k = 0; k < 3; k++) {
+            int place = k;
+            check.found("11 what was kept went, " + k, x, 1, () -> x.on(place));
+        }
         check.due("11 the BULK of the text", x.bulk(0, 0), 4);
         check.due("11 the SUN of the text", x.sun(0), 2);
         check.due("11 anew by the first", x.north(0), 2);
         check.due("11 the SHADE of the text", x.shade(0, 1), 0);
+    }
+
+    /** What was told of MEN that are no more there must not come up again. */
+    private static void fewerMen() {
+        SnowCitizens x = Check.north("z100000005 h5001 h0901 h0601 h5001 h5001 h5001");
+        x.game(0);
+        x.bribe(1, 1, 0);
+        x.census(0);
+        x.widow();
+        Check.write(x, 0, "z900000005 m0900");
+        check.due("11 one MAN behind six", x.north(0), 1);
+        check.due("11 MEN", x.count(0), 1);
+        check.due("11 all BULKS", x.count(4), 9);
+        check.due("11 HATTED ones", x.count(5), 0);
+        check.due("11 not GONE", x.now(), 0);
+        check.due("11 not GONE (bits)", x.asked(), 1);
+        check.due("11 votes of 1", x.votes(0), 0);
+        check.due("11 votes of 0", x.asked(), 1);
+        check.due("11 not CARRIED", x.carried(1), SnowCitizens.NONE);
+        check.due("11 who is GONE first", x.widow(), 0);
+        check.due("11 the heir", x.heir(0, 1), SnowCitizens.NONE);
+        check.due("11 the guard", x.guard(1, 1, 1), 1);
+        check.row("11 the guard's SHADES", x, 1, 1);
+        check.due("11 the bribe", x.bribe(0, 0, 1), 0);
+        check.row("11 the bribe's SHADES", x, 1, 0);
+        check.due("11 the census", x.census(1), 1);
+        check.row("11 the census's order", x, 1, 0);
+        check.due("11 the RIGHTS", x.rights(1), 1022);
+        check.due("11 the game", x.game(1), 0);
+        check.due("11 a DAY", x.day(), 0);
     }
 
     private static void manTells(SnowCitizens x, int i, int... want) {
@@ -214,8 +250,9 @@ public final class NorthsTest {
         check.due("13 shaded well", x.mark(2, 5), 0);
         check.due("13 as if it had BULK enough", x.mark(3, 5), 3);
         x.day();
+        check.due("13 from an odd DAY on", x.mark(0, 5), 3);
         x.day();
-        check.due("13 from another DAY on", x.mark(0, 5), 3);
+        check.due("13 from an even DAY on", x.mark(0, 5), 3);
         check.due("13 GONE", x.mark(3, 5), 3);
     }
 

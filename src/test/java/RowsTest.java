@@ -43,6 +43,7 @@ public final class RowsTest {
         check.due("2 a row of none", x.row(5, 0), 0);
         check.due("2 a row of most", x.row(4, 40), 40);
         check.row("2 zeros", x, 0, 0, 0, 0);
+        x.lay(0, 0, 6);
         x.lay(0, 1, 7);
         check.due("2 anew", x.row(0, 2), 2);
         check.row("2 zeros anew", x, 0, 0, 0);
@@ -113,6 +114,11 @@ public final class RowsTest {
         check.row("6 as if taken ahead, too", x, 0, 2, 3, 4, 3, 4);
         check.due("6 none, at the ends", x.copy(0, 5, 1, 2, 0), 1);
         check.row("6 none changes nothing", x, 1, 4, 5);
+        x.row(4, 40);
+        x.row(5, 40);
+        x.lay(4, 39, 8);
+        check.due("6 the longest", x.copy(4, 0, 5, 0, 40), 1);
+        check.due("6 to its last place", x.at(5, 39) + x.asked(), 9);
         check.refused("6 no row", x, -1, () -> x.copy(6, 0, 0, 0, 1));
         check.refused("6 no row to", x, -1, () -> x.copy(0, 0, -1, 0, 1));
         check.refused("6 BAD ahead of SIZE", x, -1, () -> x.copy(0, 0, 6, 0, -1));

@@ -10,6 +10,7 @@ public final class SeenTest {
         rights();
         gameOfOne();
         gameOfTwo();
+        gameByTheEnds();
         first();
         gameRefused();
         check.end();
@@ -154,6 +155,36 @@ public final class SeenTest {
         check.due("38 the SHADES stay", idle.shade(1, 4), 4);
     }
 
+    private static void gameByTheEnds() {
+        // A MAN of 5 has the RIGHT just with SHADE 9, one of 8 with 8 and 9, one of 20 with 4 and more.
+        check.due("38 no more than 9: it must be less", Check.north("z999999995 m0591").game(1), 0);
+        check.due("38 nobody may stand still", Check.north("z999999995 m0891").game(1), 0);
+        check.due("38 to 9 by the other one", Check.north("z999999995 m9901 m0590").game(1), 0);
+        // Under a SUN of 1 a MAN of 8 has the RIGHT (8) with SHADE 1 and more.
+        check.due("38 to 0 by the other one", Check.north("z111111118 m0811 m0811 m9900").game(1), 0);
+        // With a BULK of 32 a MAN has it under a SUN of 9 with any SHADE.
+        check.due("38 not below 0", Check.north("z999999995 m3201 m3201 m9900").game(1), 1);
+        SnowCitizens both = Check.north("z999999995 m2041 m2041 m9900");
+        check.due("38 both stand", both.game(0), 1);
+        check.due("38 both can't be kept", both.game(1), 0);
+        check.due("38 both can't be kept in two turns", both.game(2), 0);
+        check.due("39 by none in two turns", both.first(2), NONE);
+        both.right(9);
+        check.due("38 both are out by another RIGHT", both.game(0), 0);
+        both.shade(1, 9);
+        both.shade(0, 9);
+        check.due("38 both stand far from it", both.game(2), 1);
+        Check.write(both, 1, "z999999995 m9900");
+        both.north(1);
+        check.due("38 of one MAN of 0 behind that", both.game(0), 0);
+        Check.write(both, 1, "z999999995 m2041 m2041 m9900");
+        both.north(1);
+        both.game(0);
+        Check.write(both, 1, "z999999995 m9901");
+        both.north(1);
+        check.due("38 of one MAN of 1 behind that", both.game(0), 1);
+    }
+
     private static void first() {
         SnowCitizens x = Check.north("z999999995 m2041");
         check.due("39 1 more", x.first(1), 0);
@@ -167,6 +198,10 @@ public final class SeenTest {
         check.due("39 the first of many", move.first(1), 0);
         SnowCitizens second = Check.north("z999999995 m0100 m2041");
         check.due("39 only 1 more of MAN 1", second.first(1), 2);
+        check.due("39 nobody may stand still", Check.north("z999999995 m0891").first(1), NONE);
+        // MAN 0 must not be less; MAN 1 needs 1 more.
+        SnowCitizens tried = Check.north("z999999995 m0891 m2041 m9900");
+        check.due("39 what was tried is taken back", tried.first(1), 2);
         // At SHADE 9 of all the first move that there is is 1 less of MAN 0.
         SnowCitizens high = Check.north("z999999995 m9991 m9991");
         check.due("39 less alone", high.first(2), 1);
