@@ -1,3 +1,4 @@
+import java.util.TreeMap;
 import java.util.function.LongSupplier;
 
 /** What the tests share: answers compared with those that are due, refusals, norths from texts. */
@@ -5,9 +6,35 @@ final class Check {
     private final String name;
     private int right;
     private int wrong;
+    private final TreeMap<Integer, Doc> named = new TreeMap<>();
+    private String sentence = "";
+    private int answersAhead = -1;
 
     Check(String name) {
         this.name = name;
+    }
+
+    /** The answers from here on hold the program to these words of a promise (0: of the Terms). */
+    void sentence(int promise, String words) {
+        endSentence();
+        sentence = "'" + words + "' ";
+        answersAhead = right + wrong;
+        if (!named.computeIfAbsent(promise, Doc::new).name(words)) {
+            fail("the document has no such words");
+        }
+        sentence = promise + " " + sentence;
+    }
+
+    private void endSentence() {
+        if (right + wrong == answersAhead) {
+            fail("nothing was asked of it");
+        }
+        answersAhead = -1;
+    }
+
+    private void fail(String what) {
+        wrong++;
+        System.out.println(name + ": " + sentence + what);
     }
 
     /** One answer; the label begins with the promise's number. */
@@ -16,7 +43,27 @@ final class Check {
             right++;
         } else {
             wrong++;
-            System.out.println(name + ": promise " + label + ": answered " + got + ", due is " + want);
+            System.out.println(name + ": promise " + sentence + label + ": answered " + got + ", due is " + want);
+        }
+    }
+
+    /** One answer, and what asked() tells then. */
+    void told(String label, SnowCitizens x, long got, long want, long told) {
+        due(label, got, want);
+        due(label + " (told)", x.asked(), told);
+    }
+
+    /** Calls that are all refused alike, and change nothing. */
+    void allRefused(SnowCitizens x, int want, LongSupplier... calls) {
+        for (int k = 0; k < calls.length; k++) {
+            refused("call " + k, x, want, 0, calls[k]);
+        }
+    }
+
+    /** Calls that are all refused with a FINDING, and change nothing but finding() and findings(). */
+    void allFound(SnowCitizens x, int finding, LongSupplier... calls) {
+        for (int k = 0; k < calls.length; k++) {
+            refused("call " + k, x, SnowCitizens.FINDING, finding, calls[k]);
         }
     }
 
@@ -89,6 +136,19 @@ final class Check {
             due(label + " (place " + i + ")", x.asked(), cells[i]);
         }
         due(label + " (no more places)", x.at(r, cells.length), SnowCitizens.FINDING);
+    }
+
+    /** The end, where each word of some promises (0: the Terms) must have been named by a sentence. */
+    void endOf(int first, int last) {
+        endSentence();
+        for (int promise = first; promise <= last; promise++) {
+            sentence = promise + " ";
+            String left = named.computeIfAbsent(promise, Doc::new).notNamed();
+            if (!left.isEmpty()) {
+                fail("no test names these words: " + left);
+            }
+        }
+        end();
     }
 
     void end() {

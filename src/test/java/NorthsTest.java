@@ -257,20 +257,21 @@ public final class NorthsTest {
     }
 
     private static void markRefused() {
-        SnowCitizens x = Check.north("z111111115 m2000 h2000 w2000 s2000 l2000 i2000");
         // By rows: of the MAN, as bits of KINDS, what it is.
         int[] is = {0, 1 << 1, 1 << 2, 1 << 3, 1 << 1 | 1 << 4, 1 << 1 | 1 << 5};
         for (int i = 0; i < 6; i++) {
+            SnowCitizens y = Check.north("z111111115 m2000 h2000 w2000 s2000 l2000 i2000");
             for (int kind = 1; kind <= 5; kind++) {
                 int of = i;
                 int as = kind;
                 if ((is[i] >> kind & 1) == 0) {
-                    check.found("13 " + i + " is not " + kind, x, 3, () -> x.mark(of, as));
+                    check.found("13 " + i + " is not " + kind, y, 3, () -> y.mark(of, as));
                 } else {
-                    check.due("13 " + i + " is " + kind, x.mark(i, kind) == SnowCitizens.FINDING ? 1 : 0, 0);
+                    check.due("13 " + i + " is " + kind, y.mark(i, kind) == SnowCitizens.FINDING ? 1 : 0, 0);
                 }
             }
         }
+        SnowCitizens x = Check.north("z111111115 m2000 h2000 w2000 s2000 l2000 i2000");
         check.refused("13 KIND 0", x, -1, () -> x.mark(0, 0));
         check.refused("13 KIND 6", x, -1, () -> x.mark(0, 6));
         check.refused("13 KIND -1", x, -1, () -> x.mark(0, -1));
