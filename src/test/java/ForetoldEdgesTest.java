@@ -229,6 +229,12 @@ public final class ForetoldEdgesTest {
         check.due("past one that is GONE", x.heir(1, 2), 3);
         check.due("the east ahead of the nearer west", x.heir(2, 2), 3);
         check.due("the east ahead of the next one to the west", x.heir(4, 2), 5);
+        SnowCitizens ends = Check.north("z111111115 m0200 m0100 m0100 m0100 m0100 m0300");
+        ends.snow(0, 2);
+        check.due("from one end", ends.heir(1, 1), 5);
+        check.due("to the other end", ends.heir(4, 3), 0);
+        SnowCitizens far = Check.north("z111111115 m0100 m0100 m0100 m0100 m0100 m0300");
+        check.due("the eastmost of the westmost", far.heir(0, 1), 5);
         check.sentence(29, "else of the nearest to the west:");
         check.due("past one that is GONE, to the west", x.heir(5, 3), 3);
         check.due("the next one to the west", x.heir(4, 3), 3);

@@ -96,7 +96,8 @@ public final class LeastEdgesTest {
     }
 
     private static void bribe() {
-        check.sentence(31, "The fewest SHADES more or less (each 1) by which the motion is CARRIED (is = 1), or not (0),");
+        check.sentence(31, "The fewest SHADES more or less (each 1) by which the motion is CARRIED (is = 1),"
+            + " or not (0),");
         // In 2 DAYS of SUN 9 a MAN of 15 has the RIGHT (5) with a SHADE of 4 and more.
         bribeIs("z999999995 m1541", 1, 2, 0, 4);
         bribeIs("z999999995 m1531", 1, 2, 1, 4);

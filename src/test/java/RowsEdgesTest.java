@@ -13,6 +13,7 @@ public final class RowsEdgesTest {
         tear();
         copy();
         copyWithin();
+        copyWithinAll();
         copyRefused();
         mean();
         text();
@@ -179,6 +180,24 @@ public final class RowsEdgesTest {
                         check.told(from + " to " + to + ", " + n + ": place " + i, x, x.at(4, i), 1, want);
                     }
                 }
+            }
+        }
+    }
+
+    /** The greatest ROW, moved by one place each way. */
+    private static void copyWithinAll() {
+        check.sentence(6, "(perhaps itself) from one on, as if taken ahead: 1.");
+        for (int step = -1; step <= 1; step++) {
+            SnowCitizens x = new SnowCitizens();
+            x.row(0, 40);
+            for (int i = 0; i < 40; i++) {
+                x.lay(0, i, 100 + i);
+            }
+            int n = 40 - Math.abs(step);
+            check.due("copy of " + n, x.copy(0, Math.max(0, -step), 0, Math.max(0, step), n), 1);
+            for (int i = 0; i < 40; i++) {
+                int from = i - step;
+                check.told("place " + i, x, x.at(0, i), 1, from < 0 || from > 39 ? 100 + i : 100 + from);
             }
         }
     }

@@ -216,7 +216,8 @@ public final class SeenEdgesTest {
     }
 
     private static void gameTurns() {
-        // In 3 DAYS of SUN 9 a MAN of 20 has the RIGHT (5) with a SHADE of 4 and more, one of 5 with 9, one of 99 by any.
+        // In 3 DAYS of SUN 9 a MAN of 20 has the RIGHT (5) with a SHADE of 4 and more, one of 5 with 9, one of 99
+        // by any.
         check.sentence(38, "By turns two parties let SHADE: the one of 1 begins;");
         gameIs("z999999995 m0591", 1, 0, 0);
         gameIs("z999999995 m9901 m0590", 0, 0, 0);
